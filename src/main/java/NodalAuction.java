@@ -149,22 +149,19 @@ public final class NodalAuction {
     }
 
     public long extraTop(int node) {
-        if (!canAddAt(node)) {
+        if (!addOneAt(node)) {
             return 0;
         }
-        long bottom = extraBottomUnreduced();
-        long top = extraTopUnreduced();
-        long common = commonDivisor(top, bottom);
-        return common == 0 ? 0 : top / common;
+        long common = commonDivisor(costTop(), costBottom());
+        return common == 0 ? 0 : costTop() / common;
     }
 
     public int extraBottom(int node) {
-        if (!canAddAt(node)) {
+        if (!addOneAt(node)) {
             return 0;
         }
-        long bottom = extraBottomUnreduced();
-        long common = commonDivisor(extraTopUnreduced(), bottom);
-        return common == 0 ? 0 : (int) (bottom / common);
+        long common = commonDivisor(costTop(), costBottom());
+        return common == 0 ? 0 : (int) (costBottom() / common);
     }
 
     public int check(int p0, int p1, int p2, int p3) {
@@ -215,8 +212,11 @@ public final class NodalAuction {
         return book.add(side, node, price, quantity);
     }
 
-    /** Leaves the best dispatch with one unit added at the node in the program. */
-    private boolean canAddAt(int node) {
+    /**
+     * Leaves the best dispatch with one unit added at the node in the program. False when there
+     * is none.
+     */
+    private boolean addOneAt(int node) {
         if (!outcome.present || !isNode(node) || !program.load(grid, book, node, 1)) {
             return false;
         }
@@ -228,11 +228,12 @@ public final class NodalAuction {
         return true;
     }
 
-    private long extraTopUnreduced() {
+    /** What the unit that was added costs, not in lowest terms. */
+    private long costTop() {
         return outcome.worth * program.bottom - program.top(WORTH) * outcome.unit;
     }
 
-    private long extraBottomUnreduced() {
+    private long costBottom() {
         return program.bottom * outcome.unit;
     }
 
@@ -502,14 +503,16 @@ public final class NodalAuction {
          */
         private void maximise(int aim) {
             for (int move = 0; move < MAX_MOVES; move++) {
-                int j = firstGain(aim);
+                int row = rowOf(aim);
+                int j = firstGain(aim, row);
                 if (j < 0) {
                     break;
                 }
-                advance(j, gain(aim, j) > 0);
+                advance(j, gain(aim, row, j) > 0);
             }
+            int row = rowOf(aim);
             for (int j = 0; j < columns; j++) {
-                if (gain(aim, j) != 0) {
+                if (gain(aim, row, j) != 0) {
                     frozen[j] = true;
                 }
             }
@@ -538,21 +541,20 @@ public final class NodalAuction {
             return -1;
         }
 
-        /** What the aim gains when the variable of column j grows by 1, times bottom. */
-        private long gain(int aim, int j) {
-            int i = rowOf(aim);
-            if (i >= 0) {
-                return cell[i][j];
+        /** What the aim, in that row or in none, gains when column j grows by 1, times bottom. */
+        private long gain(int aim, int row, int j) {
+            if (row >= 0) {
+                return cell[row][j];
             }
             return columnVariable[j] == aim ? bottom : 0;
         }
 
         /** Bland's rule: always the least variable, here and in advance, so that no basis returns. */
-        private int firstGain(int aim) {
+        private int firstGain(int aim, int row) {
             int found = -1;
             for (int j = 0; j < columns; j++) {
                 boolean isLess = found < 0 || columnVariable[j] < columnVariable[found];
-                if (isLess && !frozen[j] && canMove(columnVariable[j], gain(aim, j))) {
+                if (isLess && !frozen[j] && canMove(columnVariable[j], gain(aim, row, j))) {
                     found = j;
                 }
             }
