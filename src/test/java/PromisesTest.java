@@ -135,6 +135,12 @@ public final class PromisesTest {
         due(4, "flow(3)", x.flow(3), NONE);
         due(4, "tight()", x.tight(), 4);
         due(4, "line(1, 0, 1, 1)", x.line(1, 0, 1, 1), 3);
+        x.limit(2, 9);
+        x.limit(3, 9);
+        due(4, "clear() round a ring", x.clear(), 2);
+        due(4, "scale() of strengths 1, 1, 2, 1", x.scale(), 7);
+        due(4, "flow(2) of strength 2", x.flow(2), -30);
+        due(4, "flow(3) of strength 1", x.flow(3), -5);
     }
 
     private static void step(int promise, boolean isBid) {
@@ -159,6 +165,13 @@ public final class PromisesTest {
         due(promise, "steps()", x.steps(), 8);
         x.cancel(3);
         due(promise, "the eighth again", add(x, isBid, 2, 5, 5), 7);
+        x = chain(10);
+        for (int i = 0; i < 8; i++) {
+            x.bid(i % 4, i, 5);
+        }
+        x.clear();
+        due(promise, "the ninth with results", add(x, isBid, 2, 5, 5), NONE);
+        due(promise, "scale() after the ninth", x.scale(), 1);
         x = cleared();
         add(x, isBid, 0, 1, 0);
         dueResults(promise, "a refused step", x, true);
@@ -202,6 +215,8 @@ public final class PromisesTest {
         due(7, "accepted(1), once step 2", x.accepted(1), 1);
         due(7, "accepted(2)", x.accepted(2), 1);
         due(7, "accepted(3)", x.accepted(3), NONE);
+        due(7, "flow(2), from node 3 to node 2", x.flow(2), -1);
+        due(7, "flow(1)", x.flow(1), 0);
         due(7, "cancel(2)", x.cancel(2), true);
         due(7, "cancel(1)", x.cancel(1), true);
         due(7, "cancel(0)", x.cancel(0), true);
