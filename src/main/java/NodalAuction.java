@@ -438,10 +438,16 @@ public final class NodalAuction {
      * A linear program over the amounts of the steps, an amount added at the root, the flows and
      * the worth, solved by the simplex method for variables between two bounds.
      *
-     * Each variable of a row is the sum of cell * variable of the column, divided by bottom. All
-     * cells and bottom are minors of one matrix of small whole numbers, so that a division in
-     * pivot leaves no rest and no number comes near the end of a long. A variable of a column
-     * stands at one of its bounds.
+     * Each variable of a row is the sum of cell * variable of the column, divided by bottom. A
+     * variable of a column stands at one of its bounds. All cells and bottom are minors of one
+     * matrix of whole numbers, so that a division in pivot leaves no rest.
+     *
+     * Why no number comes near the end of a long: at first each cell of a flow and of the amount
+     * added is at most bottom, which is trees, at most 2000. Those rows have rank 4, so that
+     * later such a cell and bottom are at most trees times a minor of 4 rows of such shares, at
+     * most 16: 32,000. A cell of the worth, with prices up to 2000, is then at most 5 * 2000 *
+     * 32,000, its sum over 8 columns at most 3000 wide below 10^13, and that times the scale or
+     * another bottom below 10^18.
      */
     private static final class Program {
         private final long[][] cell = new long[MAX_ROWS][MAX_STEPS];

@@ -649,24 +649,37 @@ public final class AnswersBoundariesTest {
     /** Three full lines of 1000 at prices as far apart as can be, and 1 less on one of them. */
     private static void gridAtTheGreatestPrices() {
         for (int last = 999; last <= 1000; last++) {
-            NodalAuction x = new NodalAuction();
-            for (int n = 1; n < 4; n++) {
-                x.line(0, n, n, 1000);
-                x.offer(0, 1, 1000);
-                x.bid(n, 1000, n == 3 ? last : 1000);
+            for (int middle = 0; middle < 2; middle++) {
+                boolean out = middle == 0;
+                NodalAuction x = new NodalAuction();
+                for (int n = 1; n < 4; n++) {
+                    x.line(0, n, n, 1000);
+                    Due.add(x, !out, 0, out ? 1 : 1000, 1000);
+                    Due.add(x, out, n, out ? 1000 : 1, n == 3 ? last : 1000);
+                }
+                x.clear();
+                int p = out ? 2000 : -2000;
+                Due.is("accepted(5)", x.accepted(5), last);
+                Due.is("check with " + last, x.check(-p, p, p, p), last == 1000 ? 1 : 5);
+                Due.is("rent with " + last, x.rent(-p, p, p, p), 4000L * (2000 + last));
             }
-            x.clear();
-            Due.is("accepted(5)", x.accepted(5), last);
-            Due.is("check with " + last, x.check(-2000, 2000, 2000, 2000), last == 1000 ? 1 : 5);
-            Due.is("rent with " + last, x.rent(-2000, 2000, 2000, 2000), 4000L * (2000 + last));
         }
     }
 
+    /** No line is full, so that the grid carries more at any prices that differ. */
     private static void gridInGreatFractions() {
         NodalAuction x = greatest();
-        Due.is("prices that differ", x.check(-2000, 0, 0, 2000), 5);
-        Due.is("prices of 1000", x.check(1000, 1000, 1000, 1000), 0);
-        Due.is("prices of 0", x.check(0, 0, 0, 0), 0);
+        for (int p = -2000; p <= 2000; p += 20) {
+            Due.is("check(" + p + ", 0, 0, 2000)", x.check(p, 0, 0, 2000) & 4, 4);
+            Due.is("check(0, 0, " + p + ", -2000)", x.check(0, 0, p, -2000) & 4, 4);
+        }
+    }
+
+    private static void supportInGreatFractions() {
+        NodalAuction x = greatest();
+        for (int p = -4; p <= 1004; p += 4) {
+            dueCheck("bids of 1000, offers of 0, all full", x, p, p < 0 || p > 1000 ? 1 : 0);
+        }
     }
 
     private static void allThree() {
@@ -831,6 +844,7 @@ public final class AnswersBoundariesTest {
         Due.sentence("Promise 18", "the grid carries some four numbers: round a ring", AnswersBoundariesTest::gridRoundATriangle);
         Due.sentence("Promise 18", "p0 * w0 + p1 * w1 + p2 * w2 + p3 * w3: at its greatest", AnswersBoundariesTest::gridAtTheGreatestPrices);
         Due.sentence("Promise 18", "p0 * w0 + p1 * w1 + p2 * w2 + p3 * w3: in 1449ths", AnswersBoundariesTest::gridInGreatFractions);
+        Due.sentence("Promise 18", "0 when they support it: in 1449ths", AnswersBoundariesTest::supportInGreatFractions);
         Due.sentence("Promise 18", "the sum of 1 .. 2 .. 4 .. 0 when they support it", AnswersBoundariesTest::allThree);
         Due.sentence("Promise 18", "-1 when there are no results", () -> withoutResults("check(2, 2, 2, 2)", -1, x -> x.check(2, 2, 2, 2)));
         Due.sentence("Promise 18", "-1 when .. one of the prices is not -2000 .. 2000", AnswersBoundariesTest::checkOfPricesBeyond);

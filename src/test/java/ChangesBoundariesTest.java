@@ -1,4 +1,5 @@
 import java.util.Map;
+import java.util.function.Consumer;
 import java.util.function.ToLongFunction;
 
 /** The sentences of the promises 1 to 8 that name a boundary, each with a test of its own. */
@@ -301,7 +302,7 @@ public final class ChangesBoundariesTest {
         }
     }
 
-    private static void bothSides(String words, java.util.function.Consumer<Boolean> test) {
+    private static void bothSides(String words, Consumer<Boolean> test) {
         Due.sentence("Promise 5", words, () -> test.accept(true));
         Due.sentence("Promise 6", words, () -> test.accept(false));
     }
@@ -423,6 +424,25 @@ public final class ChangesBoundariesTest {
         Due.alike("with the other lines", x, Due.motley(6, 8));
     }
 
+    /** One refused call of each kind after the other, over results that stay. */
+    private static void manyRefusedCalls() {
+        NodalAuction x = Due.motley(5, 8);
+        x.clear();
+        Map<String, Long> before = Due.picture(x);
+        Due.is("line(0, 0, 1, 1)", x.line(0, 0, 1, 1), Due.NONE);
+        Due.is("line(1, 0, 1, 1)", x.line(1, 0, 1, 1), Due.NONE);
+        Due.is("line(1, 3, 6, 1)", x.line(1, 3, 6, 1), Due.NONE);
+        Due.is("limit(5, 1)", x.limit(5, 1), false);
+        Due.is("limit(0, 1001)", x.limit(0, 1001), false);
+        Due.is("cut(5)", x.cut(5), false);
+        Due.is("bid(0, 1, 1)", x.bid(0, 1, 1), Due.NONE);
+        Due.is("offer(0, 1, 1)", x.offer(0, 1, 1), Due.NONE);
+        Due.is("cancel(8)", x.cancel(8), false);
+        Due.same("after nine refused calls", Due.picture(x), before);
+        x.clear();
+        Due.same("cleared again", Due.picture(x), before);
+    }
+
     public static void main(String[] args) {
         Due.sentence("Promise 1", "A grid without lines, no steps, no results", ChangesBoundariesTest::aNewObject);
         Due.sentence("Promise 1", "A new object: beside another", ChangesBoundariesTest::aNewObjectBesideAnother);
@@ -458,6 +478,7 @@ public final class ChangesBoundariesTest {
         Due.sentence("Promise 8", "the number of steps with an amount above 0: all", ChangesBoundariesTest::clearOfAll);
         Due.sentence("Promise 8", "an amount above 0: below 1", ChangesBoundariesTest::amountsBelowOne);
         Due.sentence("Promise 8", "NONE, and there are no results, when the grid is not connected", ChangesBoundariesTest::clearWhereNotConnected);
+        Due.sentence("Terms", "A call that is refused (it answers NONE or false) changes nothing", ChangesBoundariesTest::manyRefusedCalls);
         Due.sentence("Terms", "A call that is refused (it answers NONE or false) changes nothing: clear() too, but for the results", ChangesBoundariesTest::clearLeavesLinesAndSteps);
         Due.end();
     }

@@ -5,6 +5,7 @@ import java.lang.reflect.Method;
 import java.lang.reflect.Modifier;
 import java.nio.file.Files;
 import java.nio.file.Path;
+import java.util.ArrayList;
 import java.util.Arrays;
 import java.util.List;
 import java.util.Set;
@@ -57,6 +58,20 @@ public final class FaceTest {
         }
     }
 
+    private static void sizes() {
+        List<Class<?>> all = new ArrayList<>(Arrays.asList(NodalAuction.class.getDeclaredClasses()));
+        all.add(NodalAuction.class);
+        due("at most twelve classes", all.size() <= 12, true);
+        for (Class<?> type : all) {
+            long fields = Arrays.stream(type.getDeclaredFields()).filter(f -> !Modifier.isStatic(f.getModifiers())).count();
+            due("at most twenty fields in " + type.getName(), fields <= 20, true);
+            due("static fields that are not final in " + type.getName(), Arrays.stream(type.getDeclaredFields())
+                .filter(f -> Modifier.isStatic(f.getModifiers()) && !Modifier.isFinal(f.getModifiers())).count(), 0L);
+            due("methods of more than seven parameters in " + type.getName(), Arrays.stream(type.getDeclaredMethods())
+                .filter(m -> m.getParameterCount() > 7).count(), 0L);
+        }
+    }
+
     private static void language() throws IOException {
         String text = Files.readString(SOURCE).replaceAll("(?s)/\\*.*?\\*/", "").replaceAll("//[^\n]*", "");
         Matcher m = Pattern.compile("\\b(throw|throws|try|catch|synchronized|assert|import|package|double|float)\\b|->|::|\"").matcher(text);
@@ -95,6 +110,7 @@ public final class FaceTest {
 
     public static void main(String[] args) throws IOException {
         face();
+        sizes();
         language();
         room();
         System.out.println(wrong == 0 ? "all is as due" : wrong + " things are not as due");

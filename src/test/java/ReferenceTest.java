@@ -362,7 +362,7 @@ public final class ReferenceTest {
         }
     }
 
-    /** One run: an object, its reference, and a taste for small or great numbers. */
+    /** One run: an object, its reference, and a taste for small or great numbers or for the bounds. */
     private static final class Run {
         private final long seed;
         private final Random random;
@@ -371,6 +371,7 @@ public final class ReferenceTest {
         private final int dearest;
         private final int widest;
         private final int most;
+        private final boolean likesBounds;
         private int calls = 0;
 
         Run(long seed) {
@@ -379,6 +380,7 @@ public final class ReferenceTest {
             dearest = random.nextBoolean() ? 3 : random.nextBoolean() ? 20 : 1000;
             widest = random.nextBoolean() ? 4 : random.nextBoolean() ? 30 : 1000;
             most = random.nextBoolean() ? widest : random.nextBoolean() ? 7 : 1000;
+            likesBounds = seed % 4 == 0;
         }
 
         void go(int count) {
@@ -415,6 +417,9 @@ public final class ReferenceTest {
             if (random.nextInt(60) == 0) {
                 int[] edges = {least - 1, least, greatest, greatest + 1, Integer.MIN_VALUE, Integer.MAX_VALUE};
                 return edges[random.nextInt(edges.length)];
+            }
+            if (likesBounds && random.nextInt(3) != 0) {
+                return random.nextBoolean() ? least : greatest;
             }
             return least + random.nextInt(usual - least + 1);
         }

@@ -419,10 +419,12 @@ public final class TermsBoundariesTest {
         x.bid(0, 1000, 5);
         x.bid(3, 1000, 5);
         Due.is("clear() of bids alone", x.clear(), 0);
+        Due.dueAmounts("bids alone", x, 1, 0, 0);
         x = Due.web(1000);
         x.offer(0, 0, 5);
         x.offer(3, 0, 5);
         Due.is("clear() of offers alone", x.clear(), 0);
+        Due.dueAmounts("offers alone", x, 1, 0, 0);
     }
 
     private static void flowsBelowZero() {
