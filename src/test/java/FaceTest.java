@@ -1,5 +1,7 @@
 import java.io.IOException;
 import java.lang.management.ManagementFactory;
+import java.lang.reflect.Constructor;
+import java.lang.reflect.Field;
 import java.lang.reflect.Member;
 import java.lang.reflect.Method;
 import java.lang.reflect.Modifier;
@@ -49,9 +51,12 @@ public final class FaceTest {
         due("open methods", open, new TreeSet<>(FACE));
         Set<String> names = methods.stream().filter(m -> !isHidden(m)).map(Method::getName).collect(Collectors.toSet());
         due("private methods with a public name", methods.stream().filter(m -> isHidden(m) && names.contains(m.getName())).count(), 0L);
+        due("open methods that are not public alone", methods.stream().filter(m -> !isHidden(m) && m.getModifiers() != Modifier.PUBLIC).map(Method::getName).toList(), List.of());
         due("open fields", Arrays.stream(type.getDeclaredFields()).filter(f -> !isHidden(f)).map(f -> f.getName()).toList(), List.of("NONE"));
+        due("NONE", Arrays.stream(type.getFields()).map(Field::toString).toList(), List.of("public static final int NodalAuction.NONE"));
+        due("NONE", NodalAuction.NONE, -2147483648);
         due("constructors", type.getDeclaredConstructors().length, 1);
-        due("public constructors", type.getConstructors().length, 1);
+        due("public constructors", Arrays.stream(type.getConstructors()).map(Constructor::toString).toList(), List.of("public NodalAuction()"));
         for (Class<?> inside : type.getDeclaredClasses()) {
             due("static and not public: " + inside.getName(), inside.getModifiers() & (Modifier.STATIC | Modifier.PUBLIC | Modifier.PROTECTED), Modifier.STATIC);
             due("private methods with a public name in " + inside.getName(), Arrays.stream(inside.getDeclaredMethods()).filter(m -> names.contains(m.getName())).count(), 0L);
